@@ -26,10 +26,12 @@ public final class TurnRounds {
     private static final int UNIT = 60;
     /** The pace where there is no ring; it lies below every mean, as the document orders it. */
     private static final int NO_RING = -1;
+    /** Above all that is ever looked for the least of. */
+    private static final int ABOVE_ALL = 1000000;
     /** By what a sum of minutes over 1 .. 6 waits becomes their mean in sixtieths. */
     private static final int[] SIXTIETHS = {0, 60, 30, 20, 15, 12, 10};
     private static final int[] FACTORIALS = {1, 1, 2, 6, 24, 120, 720};
-    /** How far rows of 0 .. 4 told doings reach. */
+    /** Rows of 0 .. 4 told doings are less than these. */
     private static final long[] ROW_ENDS = {1L, 10000L, 100000000L, 1000000000000L, 10000000000000000L};
 
     private final int[] letters = new int[LETTERS];
@@ -95,11 +97,9 @@ public final class TurnRounds {
                 ringSets.fill(now);
                 return ringSets.rings;
             case 3:
-                return savedWaits();
             case 4:
-                return criticalWaits();
             case 5:
-                return criticalDepartures();
+                return aboutEachWait(what);
             case 6:
                 return leastPeriod();
             case 7:
@@ -250,7 +250,7 @@ public final class TurnRounds {
         }
         trial.copyFrom(now);
         int found = NONE;
-        int least = Integer.MAX_VALUE;
+        int least = ABOVE_ALL;
         for (int from = 0; from < now.size; from++) {
             for (int to = 0; to < now.size; to++) {
                 int minutes = now.of(from, to);
@@ -275,8 +275,7 @@ public final class TurnRounds {
         }
         trial.copyFrom(now);
         for (int place = 0; place < n; place++) {
-            int figures = (int) (row / ROW_ENDS[n - 1 - place] % ROW_ENDS[1]);
-            if (!holds(figures)) {
+            if (!holds(figuresOf(row, n - 1 - place))) {
                 return place;
             }
         }
@@ -417,43 +416,24 @@ public final class TurnRounds {
         return was;
     }
 
-    private int savedWaits() {
+    /** What a look at each wait tells: SAVED (3), critical waits (4), critical departures (5). */
+    private int aboutEachWait(int what) {
         walks.compare(now);
         int saved = 0;
+        int critical = 0;
+        int departures = 0;
         for (int from = 0; from < now.size; from++) {
             for (int to = 0; to < now.size; to++) {
                 if (now.of(from, to) != NONE && !walks.comesBack(from, to)) {
                     saved++;
                 }
-            }
-        }
-        return saved;
-    }
-
-    private int criticalWaits() {
-        walks.compare(now);
-        int count = 0;
-        for (int from = 0; from < now.size; from++) {
-            for (int to = 0; to < now.size; to++) {
                 if (walks.isCritical(now, from, to)) {
-                    count++;
+                    critical++;
+                    departures |= 1 << from;
                 }
             }
         }
-        return count;
-    }
-
-    private int criticalDepartures() {
-        walks.compare(now);
-        int set = 0;
-        for (int from = 0; from < now.size; from++) {
-            for (int to = 0; to < now.size; to++) {
-                if (walks.isCritical(now, from, to)) {
-                    set |= 1 << from;
-                }
-            }
-        }
-        return set;
+        return what == 3 ? saved : what == 4 ? critical : departures;
     }
 
     private int leastPeriod() {
@@ -465,6 +445,15 @@ public final class TurnRounds {
         delays.settle(net, period);
         delays.spread(net, at, LAST_ROUND);
         return delays.firstQuietRound(d, net.size);
+    }
+
+    /** The four figures that have so many fours of figures behind them. */
+    private static int figuresOf(long row, int behind) {
+        long rest = row;
+        for (int i = 0; i < behind; i++) {
+            rest /= 10000;
+        }
+        return (int) (rest % 10000);
     }
 
     /** One told doing on the trial, which it changes if it can be done; or one told thing, if it is so. */
@@ -702,7 +691,7 @@ public final class TurnRounds {
 
     /** Tables of walks: the slowest ring, and which waits lie on rings. */
     private static final class Walks {
-        private static final int NO_WALK = -1000000;
+        private static final int NO_WALK = -ABOVE_ALL;
 
         /** Row k: for each departure the longest walk of k waits that ends there (below 0: there is none). */
         private final int[] rows = new int[(DEPARTURES + 1) * DEPARTURES];
@@ -749,7 +738,7 @@ public final class TurnRounds {
             if (whole < 0) {
                 return NO_RING;
             }
-            int least = Integer.MAX_VALUE;
+            int least = ABOVE_ALL;
             for (int k = 0; k < size; k++) {
                 least = Math.min(least, (whole - rows[k * DEPARTURES + to]) * SIXTIETHS[size - k]);
             }
@@ -803,8 +792,6 @@ public final class TurnRounds {
 
     /** Times by a period, and delays that spread by it. */
     private static final class Delays {
-        private static final int NEVER = 1000000;
-
         private final int[] times = new int[DEPARTURES];
         /** Row r: for each departure the least that walks of r waits from the late one have to spare. */
         private final int[] spares = new int[(LAST_ROUND + 1) * DEPARTURES];
@@ -837,7 +824,7 @@ public final class TurnRounds {
         /** A delay less what a walk has to spare comes to its end: the walk that spares least tells. */
         void spread(Net net, int at, int rounds) {
             for (int departure = 0; departure < net.size; departure++) {
-                spares[departure] = departure == at ? 0 : NEVER;
+                spares[departure] = departure == at ? 0 : ABOVE_ALL;
             }
             for (int round = 1; round <= rounds && round <= LAST_ROUND; round++) {
                 for (int to = 0; to < net.size; to++) {
@@ -847,10 +834,10 @@ public final class TurnRounds {
         }
 
         private int leastSpare(Net net, int row, int to) {
-            int least = NEVER;
+            int least = ABOVE_ALL;
             for (int from = 0; from < net.size; from++) {
                 int ahead = spares[row * DEPARTURES + from];
-                if (ahead != NEVER && net.of(from, to) != NONE) {
+                if (ahead != ABOVE_ALL && net.of(from, to) != NONE) {
                     least = Math.min(least, ahead + spareOf(net, from, to));
                 }
             }
@@ -895,23 +882,30 @@ public final class TurnRounds {
             for (int low = 0; low < net.size; low++) {
                 counts[(1 << low) * DEPARTURES + low] = 1;
             }
-            for (int low = 0; low < net.size; low++) {
-                for (int set = 1 << low; set < 1 << net.size; set += 2 << low) {
-                    for (int end = low; end < net.size; end++) {
-                        goOn(net, set, low, end);
-                    }
+            for (int set = 1; set < 1 << net.size; set++) {
+                for (int end = 0; end < net.size; end++) {
+                    goOn(net, set, end);
                 }
             }
             takeWithin(net.size);
         }
 
+        private static int lowestOf(int set) {
+            int low = 0;
+            while (low < DEPARTURES - 1 && (set >> low & 1) == 0) {
+                low++;
+            }
+            return low;
+        }
+
         /** Closes the walks over a set into rings, and takes them one departure further. */
-        private void goOn(Net net, int set, int low, int end) {
+        private void goOn(Net net, int set, int end) {
             int count = counts[set * DEPARTURES + end];
             int sum = longest[set * DEPARTURES + end];
             if (count == 0) {
                 return;
             }
+            int low = lowestOf(set);
             int back = net.of(end, low);
             if (back != NONE) {
                 rings += count;

@@ -8,6 +8,8 @@ public final class ModelTest {
     private final Due due;
     private final Random random;
     private final int wild;
+    /** In some runs waits are mostly put, cut, timed and undone, so that many doings come together. */
+    private final boolean isBusy;
     private final TurnRounds x = new TurnRounds();
     private final Model model = new Model();
     private int calls;
@@ -16,6 +18,7 @@ public final class ModelTest {
         this.due = due;
         this.random = new Random(seed);
         this.wild = random.nextInt(3) * 20;
+        this.isBusy = one(3);
     }
 
     public static void main(String[] args) {
@@ -55,7 +58,8 @@ public final class ModelTest {
     }
 
     private void step(String at) {
-        int kind = random.nextInt(31);
+        int kind = isBusy && !one(8) ? 6 + random.nextInt(7) : random.nextInt(31);
+        if (isBusy && one(6)) kind = 12;
         int a = departure();
         int b = departure();
         int m = within(0, 9);
