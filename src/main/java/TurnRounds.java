@@ -722,7 +722,7 @@ public final class TurnRounds {
 
         /** One wait more than the walks of this row have. */
         private int longest(Net net, int row, int to) {
-            int most = NO_RING;
+            int most = -1;
             for (int from = 0; from < net.size; from++) {
                 int ahead = rows[row * DEPARTURES + from];
                 int minutes = net.of(from, to);
