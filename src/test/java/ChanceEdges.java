@@ -99,6 +99,8 @@ final class ChanceEdges extends Edges {
         TurnRounds y = of("N3009011104025");
         isDropped("two rings, a wait off them, one breaks it", y, asked(0, 8, 2), 1, 5);
         isDropped("two rings, both break it", y, asked(0, 2, 2), 1, 25);
+        TurnRounds z = of(ring(9, 9, 9, 9, 9, 9), 40);
+        isDropped("one breaks 6, the next does not", z, asked(0, 6, 3), 3, 10);
         isDropped("waits to it are not dropped", of("N2019109119"), asked(0, 8, 10), 0, 1);
     }
 
@@ -237,6 +239,7 @@ final class ChanceEdges extends Edges {
         is("timed to the same", drawn(x, seedFor(1, 1, 9), 1), 9);
         is("cut", drawn(x, seedFor(1, 1, 10), 1), 4);
         is("the only ring cut", drawn(of("N1009"), seedFor(0, 0, 10), 1), 0);
+        is("a ring of six cut", drawn(of(ring(9, 9, 9, 9, 9, 9)), seedFor(0, 1, 10), 1), 0);
         is("put with 0", drawn(new TurnRounds(), seedFor(0, 0, 0), 1), 0);
         is("put with 9", drawn(new TurnRounds(), seedFor(0, 0, 9), 1), 9);
     }

@@ -96,7 +96,8 @@ final class DelayEdges extends Edges {
     }
 
     private void greatestOfSeveral() {
-        says(16, "a DEPARTURE is late by the greatest of what those from which it has WAITS were late in the ROUND ahead");
+        says(16, "a DEPARTURE is late by the greatest of what those from which it has WAITS were late "
+                + "in the ROUND ahead");
         // By 9 there is nothing to spare over 1, 5 over 2.
         TurnRounds x = of("N4019024139239");
         is("over 1", x.late(0, 30, 9, 3, 2), 30);

@@ -155,6 +155,8 @@ final class JudgeEdges extends Edges {
             is("no wait is longer than 10", x.judge(1, 6000 + 100 * departure), NONE);
             is("1 is not so", x.judge(1, 6001 + 100 * departure), 0);
         }
+        is("by 0 it is 45", x.departs(5, 0), 45);
+        is("by 10 it is 0, whatever was asked ahead of it", x.judge(1, 6500), NONE);
         is("99 is not so", x.judge(1, 6099), 0);
         is("45 is so by 0 alone", x.judge(1, 6545), 0);
         is("no such departure", x.judge(1, 6600), 0);

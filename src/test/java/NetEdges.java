@@ -408,7 +408,8 @@ final class NetEdges extends Edges {
     }
 
     private void ringsOverDepartures() {
-        says(6, "A RING is a row of WAITS, each from where the one ahead goes to, the first from where the last goes to");
+        says(6, "A RING is a row of WAITS, each from where the one ahead goes to, "
+                + "the first from where the last goes to");
         is("one over itself", of("N1001").about(2), 1);
         is("one over two", of("N2011101").about(2), 1);
         is("one over six", of(ring(1, 1, 1, 1, 1, 1)).about(2), 1);

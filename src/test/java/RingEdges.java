@@ -250,6 +250,9 @@ final class RingEdges extends Edges {
         is("the slower of two", of("N3018104225").best(0), 1);
         is("two rings as slow: neither helps, the first", of("N3016106226").best(0), 1);
         is("two rings as slow: the wait on both", of("N3015125025205").best(0), 20);
+        // By 1 less neither wait of the ring of 8 is better; by 2 less, or gone, 1 to 0 would be.
+        is("by 1 less, not by more", of("N3018108027217").best(0), 1);
+        is("as the waits are now, not as they were told", of("N3018108", 229).best(0), 22);
         is("no ring: none has one, the first", of("N3125021").best(0), 2);
         is("no ring, the first has 0 minutes", of("N3125020").best(0), 12);
     }
@@ -260,6 +263,9 @@ final class RingEdges extends Edges {
         is("no wait", of("N2").best(1), NONE);
         is("of 0 minutes", of("N1000").best(1), 0);
         is("the last one", of("N6", 550).best(1), 55);
+        is("gone, not 1 less", of("N3018108027217").best(1), 10);
+        is("gone, not of less than 0 minutes", of(ring(9, 9, 9, 9, 9, 9), 50).best(1), 50);
+        is("as the waits are now, not as they were told", of("N3018108", 229).best(1), 22);
         says(18, "(none is less than all)");
         // By 2 to 0 alone all rings are gone; by each other one a ring of 0 minutes stays.
         is("no ring is less than 0", of("N3010120020200").best(1), 20);
@@ -268,7 +274,8 @@ final class RingEdges extends Edges {
     }
 
     private void firstOfLikeOnes() {
-        says(18, "of like ones the first, by where it goes from, then to where; told as 10 times the one and the other");
+        says(18, "of like ones the first, by where it goes from, then to where; "
+                + "told as 10 times the one and the other");
         is("by where from", of("N3105025").best(0), 2);
         is("by where from", of("N3105025").best(1), 2);
         is("then to where", of("N6525515").best(0), 51);
@@ -321,6 +328,12 @@ final class RingEdges extends Edges {
             isFraction("all waits", upper -> allWaits(6, 9).share(at, upper), 3, 2);
         }
         // 0, 1: 3, then 17/2; 1, 0: 0, then 17/2.
+        TurnRounds x = of(ring(9, 9));
+        isFraction("9 each", upper -> x.share(0, upper), 9, 2);
+        x.time(0, 1, 0);
+        isFraction("9/2 together, though more was asked for ahead of it", upper -> x.share(0, upper), 9, 4);
+        x.cut(0, 1);
+        isFraction("none, though some was asked for ahead of it", upper -> x.share(0, upper), 0, 1);
         isFraction("first of two", upper -> of("N2003019108").share(0, upper), 23, 4);
         isFraction("second of two", upper -> of("N2003019108").share(1, upper), 11, 4);
         // Over six orders 0 adds 5/2 once, 1/2 twice (to the 2 that is there); 2 adds 2 four times.

@@ -91,11 +91,11 @@ final class UnchangedEdges extends Edges {
     private void rowsOfFourteen() {
         says(11, "are a row (14 at most; when it is full, the first one is forgotten)");
         List<String> before = new ArrayList<>();
-        TurnRounds x = of("N2");
+        TurnRounds x = of("N3");
         for (int i = 0; i < 30; i++) {
             before.add(waitsOf(x));
-            int from = i / 2 % 2;
-            int to = i % 2;
+            int from = i / 3 % 3;
+            int to = i % 3;
             long done = x.minutes(from, to) == NONE ? x.put(from, to, i % 10)
                     : i % 3 == 0 ? x.cut(from, to) : x.time(from, to, i % 7);
             is("doing " + i + " is done", done >= 0 ? 1 : 0, 1);
@@ -109,6 +109,10 @@ final class UnchangedEdges extends Edges {
     }
 
     private static String waitsOf(TurnRounds x) {
-        return x.minutes(0, 0) + " " + x.minutes(0, 1) + " " + x.minutes(1, 0) + " " + x.minutes(1, 1);
+        StringBuilder all = new StringBuilder();
+        for (int cell = 0; cell < 9; cell++) {
+            all.append(x.minutes(cell / 3, cell % 3)).append(' ');
+        }
+        return all.toString();
     }
 }
