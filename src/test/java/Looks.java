@@ -23,10 +23,17 @@ final class Looks {
 
     /** The answers of all looks, each at a new object that is made this way. */
     static String at(Supplier<TurnRounds> made) {
+        return but("", made);
+    }
+
+    /** The answers of all looks but that of this name. */
+    static String but(String leftOut, Supplier<TurnRounds> made) {
         StringBuilder answers = new StringBuilder();
         for (Look look : Look.values()) {
-            answers.append(look).append(": ");
-            look.asks.accept(made.get(), answers);
+            if (!look.name().equals(leftOut)) {
+                answers.append(look).append(": ");
+                look.asks.accept(made.get(), answers);
+            }
         }
         return answers.toString();
     }

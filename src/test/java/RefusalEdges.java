@@ -31,47 +31,18 @@ final class RefusalEdges extends Edges {
         fullText();
     }
 
-    /** Three departures, the row of doings, both slots and what is seen full, and another net in the text. */
-    static TurnRounds busy() {
-        TurnRounds x = tell(new TurnRounds(), "N3018126204117");
-        x.net();
-        x.keep(0);
-        x.put(0, 0, 3);
-        x.put(2, 2, 5);
-        x.keep(1);
-        x.cut(1, 1);
-        for (int i = 0; i < 10; i++) {
-            x.time(0, 1, i);
-        }
-        x.put(2, 1, 2);
-        x.time(1, 2, 6);
-        x.cut(2, 2);
-        for (int round = 1; round <= 3; round++) {
-            x.see(0, round, 1);
-            x.see(1, round + 3, 0);
-        }
-        x.seed(42);
-        return tell(x, "N3102215");
+    private static TurnRounds roomToSee() {
+        return Busy.with(Busy.SEEN - 1, Busy.SEED, Busy.TEXT);
     }
 
-    /** The same, and one thing less seen. */
-    static TurnRounds roomToSee() {
-        TurnRounds x = busy();
-        x.unsee();
-        for (int round = 1; round <= 5; round++) {
-            x.see(1, round, 1);
-        }
-        return x;
-    }
-
-    static TurnRounds withoutDoings() {
-        TurnRounds x = busy();
+    private static TurnRounds withoutDoings() {
+        TurnRounds x = Busy.full();
         x.again(1);
         return x;
     }
 
     private static TurnRounds withText(String text) {
-        return tell(busy(), text);
+        return Busy.with(Busy.SEEN, Busy.SEED, text);
     }
 
     private static TurnRounds keptOnce(int slot) {
@@ -84,7 +55,7 @@ final class RefusalEdges extends Edges {
     }
 
     private void refuses(String what, int want, Call call) {
-        refuses(what, want, RefusalEdges::busy, call);
+        refuses(what, want, Busy::full, call);
     }
 
     /** The call is refused so, and its object is as one that was never asked. */
@@ -226,7 +197,7 @@ final class RefusalEdges extends Edges {
     }
 
     private static TurnRounds netOf(String text) {
-        TurnRounds x = tell(busy(), text);
+        TurnRounds x = withText(text);
         x.net();
         return x;
     }

@@ -4,7 +4,7 @@ import java.util.List;
 import java.util.Map;
 import java.util.function.Supplier;
 
-/** What is only asked changes nothing, and what is drawn changes the seed alone. */
+/** What is only asked changes nothing, and what changes something changes that alone. */
 final class UnchangedEdges extends Edges {
     UnchangedEdges(Due due, Words words) {
         super(due, words);
@@ -18,6 +18,11 @@ final class UnchangedEdges extends Edges {
         }
         judged();
         drawn();
+        textAlone();
+        seenAlone();
+        seedAlone();
+        slotAlone();
+        undoneAlone();
         rowsOfFourteen();
     }
 
@@ -42,18 +47,25 @@ final class UnchangedEdges extends Edges {
         asked.put("began first", x -> x.began(1));
         asked.put("dropped never", x -> x.dropped(0, 0, 0, true));
         asked.put("dropped always", x -> x.dropped(0, 20, 10, false));
-        asked.put("the seed set to what it was", x -> x.seed(42));
+        asked.put("the seed set to what it was", x -> x.seed(Busy.SEED));
         return asked;
     }
 
     private void unchanged(String what, Call call) {
-        Supplier<TurnRounds> made = RefusalEdges::busy;
-        String after = Looks.at(() -> {
+        leadsTo(what + " changes nothing", Busy::full, call, Busy::full);
+    }
+
+    /** Behind the call the one object answers all as the other does. */
+    private void leadsTo(String what, Supplier<TurnRounds> one, Call call, Supplier<TurnRounds> other) {
+        isSame(what, Looks.at(behind(one, call)), Looks.at(other));
+    }
+
+    private static Supplier<TurnRounds> behind(Supplier<TurnRounds> made, Call call) {
+        return () -> {
             TurnRounds x = made.get();
             call.on(x);
             return x;
-        });
-        isSame(what + " changes nothing", after, Looks.at(made));
+        };
     }
 
     private void judged() {
@@ -70,20 +82,68 @@ final class UnchangedEdges extends Edges {
         says(26, "(Nothing changes but THE SEED.)");
         int[] often = {1, 2, 19, 20};
         for (int m : often) {
-            TurnRounds first = RefusalEdges.busy();
+            TurnRounds first = Busy.full();
             first.drawn(m);
             long seed = first.seed(0);
-            String after = Looks.at(() -> {
-                TurnRounds x = RefusalEdges.busy();
-                x.drawn(m);
-                return x;
-            });
-            String set = Looks.at(() -> {
-                TurnRounds x = RefusalEdges.busy();
-                x.seed(seed);
-                return x;
-            });
-            isSame("drawn " + m + " times", after, set);
+            leadsTo("drawn " + m + " times", Busy::full, x -> x.drawn(m), () -> seeded(seed));
+        }
+    }
+
+    private static TurnRounds seeded(long seed) {
+        return Busy.with(Busy.SEEN, seed, Busy.TEXT);
+    }
+
+    private static TurnRounds written(String text) {
+        return Busy.with(Busy.SEEN, Busy.SEED, text);
+    }
+
+    private static TurnRounds saw(int seen) {
+        return Busy.with(seen, Busy.SEED, Busy.TEXT);
+    }
+
+    private void textAlone() {
+        says(2, "A letter (0 .. 255) comes behind THE TEXT");
+        leadsTo("a first letter", () -> written(""), x -> x.write('N'), () -> written("N"));
+        leadsTo("a last letter", () -> written("N310221"), x -> x.write('5'), () -> written("N3102215"));
+        says(3, "THE TEXT is empty");
+        leadsTo("a text wiped", Busy::full, TurnRounds::wipe, () -> written(""));
+        leadsTo("nothing wiped", () -> written(""), TurnRounds::wipe, () -> written(""));
+    }
+
+    private void seenAlone() {
+        says(21, "SEEN: how many there are.");
+        leadsTo("a first one seen", () -> saw(0), x -> x.see(0, 1, 1), () -> saw(1));
+        leadsTo("a sixth one seen", () -> saw(5), x -> x.see(1, 6, 0), () -> saw(6));
+        says(22, "Nothing is SEEN");
+        leadsTo("all unseen", () -> saw(6), TurnRounds::unsee, () -> saw(0));
+        leadsTo("nothing unseen", () -> saw(0), TurnRounds::unsee, () -> saw(0));
+    }
+
+    private void seedAlone() {
+        says(25, "THE SEED is v");
+        long[] seeds = {0, -1, Long.MIN_VALUE, Long.MAX_VALUE};
+        for (long seed : seeds) {
+            leadsTo("seed " + seed, Busy::full, x -> x.seed(seed), () -> seeded(seed));
+        }
+    }
+
+    private void slotAlone() {
+        says(27, "They are kept: WAITS.");
+        String[] looks = {"KEPT_FIRST", "KEPT_LAST"};
+        for (int i = 0; i < looks.length; i++) {
+            int slot = i;
+            isSame("kept in " + slot + ", all else", Looks.but(looks[slot], behind(Busy::full, x -> x.keep(slot))),
+                    Looks.but(looks[slot], Busy::full));
+        }
+    }
+
+    private void undoneAlone() {
+        says(11, "The last DOING is undone");
+        // From the third on, so that both slots are kept in the one and the other.
+        for (int i = 3; i <= 14; i++) {
+            int count = i;
+            leadsTo("doing " + i + " undone", () -> Busy.doings(count), TurnRounds::undo,
+                    () -> Busy.doings(count - 1));
         }
     }
 
